@@ -92,7 +92,11 @@ public final class TaintScanner {
         if (program.open > 0) {
             return NONE;
         }
-        return analysis.make(program);
+        // A valid analysis is one of these very lines: making it again would bring the same.
+        if (!analysis.made) {
+            analysis.make(program);
+        }
+        return analysis.unsafe;
     }
 
     public int size(int k) {
@@ -380,6 +384,11 @@ public final class TaintScanner {
             return open == 0 ? NONE : kind[part[open - 1]];
         }
 
+        /** Whether the WHEN of an END has an OTHER. */
+        boolean hasOther(int end) {
+            return mate[mate[end]] != end;
+        }
+
         int add(int lineKind, int v, int a, int b) {
             kind[count] = lineKind;
             variable[count] = v;
@@ -519,6 +528,11 @@ public final class TaintScanner {
             return (good >> q & 1) == 1;
         }
 
+        /** Whether one of a set of states is good. */
+        boolean hasGood(int set) {
+            return (good & set) != 0;
+        }
+
         void begin(int stateCount, int goodStates) {
             states = stateCount;
             good = goodStates;
@@ -630,9 +644,9 @@ public final class TaintScanner {
 
         private int deadState() {
             for (int q = 0; q < states; q++) {
-                boolean stays = !isGood(q);
-                for (int letter = 1; letter <= LETTERS && stays; letter++) {
-                    stays = after(q, letter) == q;
+                boolean stays = (good >> q & 1) == 0;
+                for (int way = q * LETTERS; way < (q + 1) * LETTERS && stays; way++) {
+                    stays = next[way] == q;
                 }
                 if (stays) {
                     return q;
@@ -719,12 +733,7 @@ public final class TaintScanner {
         }
 
         boolean isGoodKey(int key) {
-            for (int q = 0; q < b.states; q++) {
-                if ((key >> q & 1) == 1 && b.isGood(q)) {
-                    return true;
-                }
-            }
-            return false;
+            return b.hasGood(key % SETS);
         }
 
         /** Where a word of the first may end, one of the second may begin. */
@@ -774,55 +783,53 @@ public final class TaintScanner {
         static final int MOST_STATES = 8;
 
         private Language a;
-        private int function;
+        /** What the function makes of a letter: one letter, or 0 when that is left out. */
+        private final int[] made = new int[LETTERS + 1];
+        /** For a state the set of itself and those to which letters lead that are left out. */
+        private final int[] silent = new int[MOST_STATES];
 
-        void use(Language language, int applied) {
+        void use(Language language, int function) {
             a = language;
-            function = applied;
-        }
-
-        int firstKey() {
-            return withSilent(1);
-        }
-
-        int keyAfter(int key, int letter) {
-            return withSilent(reached(key, letter));
-        }
-
-        boolean isGoodKey(int key) {
-            for (int q = 0; q < a.states; q++) {
-                if ((key >> q & 1) == 1 && a.isGood(q)) {
-                    return true;
-                }
-            }
-            return false;
-        }
-
-        /** The states to which a letter leads whose image is this one; 0 stands for no letter. */
-        private int reached(int set, int image) {
-            int to = 0;
             for (int letter = 1; letter <= LETTERS; letter++) {
-                if (Words.image(letter, function) != image) {
-                    continue;
-                }
-                for (int q = 0; q < a.states; q++) {
-                    if ((set >> q & 1) == 1) {
-                        to |= 1 << a.after(q, letter);
+                made[letter] = Words.image(letter, function);
+            }
+            for (int q = 0; q < a.states; q++) {
+                silent[q] = 1 << q;
+            }
+            // That often is enough: a way on which no state comes twice is shorter than there are states.
+            for (int i = 0; i < a.states; i++) {
+                lengthenSilent();
+            }
+        }
+
+        private void lengthenSilent() {
+            for (int q = 0; q < a.states; q++) {
+                for (int letter = 1; letter <= LETTERS; letter++) {
+                    if (made[letter] == 0) {
+                        silent[q] |= silent[a.after(q, letter)];
                     }
                 }
             }
-            return to;
         }
 
-        /** As many times as there are states are enough: each time but the last adds one. */
-        private int withSilent(int set) {
-            int all = set;
-            int more = reached(all, 0);
-            for (int i = 0; i < a.states && (all | more) != all; i++) {
-                all |= more;
-                more = reached(all, 0);
+        int firstKey() {
+            return silent[0];
+        }
+
+        int keyAfter(int key, int letter) {
+            int set = 0;
+            for (int from = 1; from <= LETTERS; from++) {
+                for (int q = 0; q < a.states && made[from] == letter; q++) {
+                    if ((key >> q & 1) == 1) {
+                        set |= silent[a.after(q, from)];
+                    }
+                }
             }
-            return all;
+            return set;
+        }
+
+        boolean isGoodKey(int key) {
+            return a.hasGood(key);
         }
     }
 
@@ -1005,6 +1012,8 @@ public final class TaintScanner {
         final Language[] sinks = new Language[Program.MOST_SINKS];
         final int[] rounds = new int[Program.MOST_LINES];
         boolean made;
+        /** How many sinks are unsafe. */
+        int unsafe;
         private final int[][] witnesses = new int[Program.MOST_SINKS][LONGEST_WITNESS];
         private final int[] witnessLengths = new int[Program.MOST_SINKS];
         private final Language[] now = new Language[VARIABLES];
@@ -1047,8 +1056,7 @@ public final class TaintScanner {
             return i < witnessLengths[k] ? witnesses[k][i] : 0;
         }
 
-        /** Answers how many sinks are unsafe. */
-        int make(Program program) {
+        void make(Program program) {
             for (int v = 0; v < VARIABLES; v++) {
                 now[v].becomeWord(0);
             }
@@ -1063,6 +1071,9 @@ public final class TaintScanner {
                         turn(program, program.mate[program.mate[at]]);
                         break;
                     case Program.END_WHEN:
+                        if (!program.hasOther(at)) {
+                            turn(program, program.mate[at]);
+                        }
                         leaveWhen(program, at);
                         break;
                     case Program.LOOP:
@@ -1081,12 +1092,12 @@ public final class TaintScanner {
                 }
                 at = next;
             }
+            findWitnesses(program.sinks);
             made = true;
-            return findWitnesses(program.sinks);
         }
 
-        private int findWitnesses(int sinkCount) {
-            int unsafe = 0;
+        private void findWitnesses(int sinkCount) {
+            unsafe = 0;
             for (int k = 0; k < sinkCount; k++) {
                 pair.use(sinks[k], attacks, Pair.BOTH);
                 automaton.explore(pair);
@@ -1095,7 +1106,6 @@ public final class TaintScanner {
                     unsafe++;
                 }
             }
-            return unsafe;
         }
 
         private void change(Program program, int at) {
@@ -1118,7 +1128,9 @@ public final class TaintScanner {
                     automaton.reduce(into);
                     break;
                 default:
-                    makeImage(into, now[first], second);
+                    boolean widening = second != Words.GUARD;
+                    automaton.explore(imageOf(widening ? atMost(now[first], Image.MOST_STATES) : now[first], second));
+                    automaton.reduce(into);
                     break;
             }
         }
@@ -1128,18 +1140,16 @@ public final class TaintScanner {
             return now[0].isEmpty();
         }
 
-        private void makeImage(Language into, Language from, int function) {
+        private Rule imageOf(Language language, int function) {
             if (function == Words.GUARD) {
-                guarded.use(from);
-                automaton.explore(guarded);
-            } else {
-                image.use(atMost(from, Image.MOST_STATES), function);
-                automaton.explore(image);
+                guarded.use(language);
+                return guarded;
             }
-            automaton.reduce(into);
+            image.use(language, function);
+            return image;
         }
 
-        /** The language itself, or, if its size is above that, what it is widened; it stays as it is. */
+        /** The language itself, or what it is widened if its size is above that; itself it stays as it is. */
         private Language atMost(Language language, int states) {
             if (language.states <= states) {
                 return language;
@@ -1167,12 +1177,7 @@ public final class TaintScanner {
         }
 
         private void leaveWhen(Program program, int end) {
-            int head = program.mate[end];
-            boolean hasOther = program.mate[head] != end;
-            if (!hasOther) {
-                turn(program, head);
-            }
-            int base = program.level[head] * VARIABLES;
+            int base = program.level[end] * VARIABLES;
             for (int v = 0; v < VARIABLES; v++) {
                 unite(now[v], brought[base + v]);
             }
@@ -1200,6 +1205,10 @@ public final class TaintScanner {
         }
 
         private void unite(Language into, Language that) {
+            // Spares work, as a way leaves most variables as they are.
+            if (into.isSame(that)) {
+                return;
+            }
             pair.use(into, that, Pair.EITHER);
             automaton.explore(pair);
             automaton.reduce(into);
