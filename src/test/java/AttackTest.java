@@ -2,12 +2,27 @@
 public final class AttackTest {
     private static final Checks CHECKS = new Checks();
 
+    private static final int MOST_CALLS = 512;
+
+    private static TaintScanner scanner = new TaintScanner();
+    private static int calls = 0;
+
     public static void main(String[] args) {
         TaintScanner x = new TaintScanner();
         plainWords(x);
         noWords(x);
-        everyShortWord(x, 0, "");
+        everyShortWord(0, "");
         CHECKS.close("AttackTest");
+    }
+
+    /** Asks a new object when the last one has had its calls. */
+    private static int attack(long word) {
+        if (calls == MOST_CALLS) {
+            scanner = new TaintScanner();
+            calls = 0;
+        }
+        calls++;
+        return scanner.attack(word);
     }
 
     private static void plainWords(TaintScanner x) {
@@ -38,10 +53,10 @@ public final class AttackTest {
         }
     }
 
-    private static void everyShortWord(TaintScanner x, long word, String text) {
-        CHECKS.same("22 word " + text, x.attack(word), ModelScanner.isAttack(text) ? 1 : 0);
+    private static void everyShortWord(long word, String text) {
+        CHECKS.same("22 word " + text, attack(word), ModelScanner.isAttack(text) ? 1 : 0);
         for (int letter = 1; letter <= 8 && text.length() < 6; letter++) {
-            everyShortWord(x, word << 4 | letter, text + letter);
+            everyShortWord(word << 4 | letter, text + letter);
         }
     }
 }

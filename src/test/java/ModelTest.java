@@ -3,9 +3,13 @@ import java.util.Random;
 /**
  * All promises: random programs, and random calls with right and wrong arguments, are given to the
  * program and to a plain model of the document, and all answers are compared. The seeds are fixed.
+ * No object gets more than the 512 calls that the document speaks of.
  */
 public final class ModelTest {
     private static final Checks CHECKS = new Checks();
+    private static final int MOST_CALLS = 512;
+    /** A run and the questions about it. */
+    private static final int CALLS_OF_RUN = 50;
 
     private final TaintScanner x = new TaintScanner();
     private final ModelScanner m = new ModelScanner();
@@ -13,6 +17,9 @@ public final class ModelTest {
     private final StringBuilder told = new StringBuilder();
     /** Whether lines mostly put short constants behind variables 0 and 1, so that sizes come near 24. */
     private final boolean growing;
+    private final long[] passed = new long[20];
+    private final int[] places = new int[20];
+    private int calls;
 
     private ModelTest(long seed) {
         random = new Random(seed);
@@ -21,7 +28,7 @@ public final class ModelTest {
     }
 
     public static void main(String[] args) {
-        int programs = args.length > 0 ? Integer.parseInt(args[0]) : 2500;
+        int programs = args.length > 0 ? Integer.parseInt(args[0]) : 4000;
         int base = args.length > 1 ? Integer.parseInt(args[1]) : 0;
         for (int seed = base; seed < base + programs && !CHECKS.hasWrong(); seed++) {
             ModelTest t = new ModelTest(seed);
@@ -31,7 +38,7 @@ public final class ModelTest {
             t.askAll();
         }
         for (int seed = base; seed < base + programs / 2 && !CHECKS.hasWrong(); seed++) {
-            new ModelTest(1_000_000 + seed).callAtRandom(200);
+            new ModelTest(1_000_000 + seed).callAtRandom();
         }
         CHECKS.close("ModelTest");
     }
@@ -42,6 +49,7 @@ public final class ModelTest {
 
     private void same(String call, long got, long want) {
         told.append(' ').append(call).append('=').append(got);
+        calls++;
         CHECKS.same(CHECKS.hasWrong() || got == want ? call : told.toString(), got, want);
     }
 
@@ -145,19 +153,27 @@ public final class ModelTest {
         }
         for (int k = -1; k < 7; k++) {
             same("size(" + k + ")", x.size(k), m.size(k));
-            for (int i = -1; i == -1 || i < 100 && x.witness(k, i - 1) > 0; i++) {
-                same("witness(" + k + ", " + i + ")", x.witness(k, i), m.witness(k, i));
-            }
-            same("witness(" + k + ", 100)", x.witness(k, 100), m.witness(k, 100));
-            for (int i = 0; i < 20; i++) {
-                accept(k, word(below(i / 2 + 1)));
+            askWitness(k);
+            for (int i = 0; i < 12; i++) {
+                accept(k, word(below(i / 2 + 2)));
             }
         }
-        for (int i = 0; i < 6; i++) {
+        while (calls + CALLS_OF_RUN + 40 <= MOST_CALLS) {
             give(below(3), constant(below(7)));
             run(below(2) == 0 ? 1 + below(40) : 1 + below(1000));
             passedWordsAreAccepted();
         }
+    }
+
+    /** To its end, and behind that. */
+    private void askWitness(int k) {
+        same("witness(" + k + ", -1)", x.witness(k, -1), m.witness(k, -1));
+        int letter = 1;
+        for (int i = 0; i < 30 && letter > 0; i++) {
+            letter = x.witness(k, i);
+            same("witness(" + k + ", " + i + ")", letter, m.witness(k, i));
+        }
+        same("witness(" + k + ", 100)", x.witness(k, 100), m.witness(k, 100));
     }
 
     private void accept(int k, long word) {
@@ -172,17 +188,22 @@ public final class ModelTest {
         same("run(" + steps + ")", x.run(steps), m.run(steps));
         same("ended()", x.ended(), m.ended());
         for (int j = -1; j < 22; j++) {
-            same("passed(" + j + ")", x.passed(j), m.passed(j));
-            same("place(" + j + ")", x.place(j), m.place(j));
+            long word = x.passed(j);
+            int place = x.place(j);
+            same("passed(" + j + ")", word, m.passed(j));
+            same("place(" + j + ")", place, m.place(j));
+            if (j >= 0 && j < passed.length) {
+                passed[j] = word;
+                places[j] = place;
+            }
         }
     }
 
     /** A sink's language is to have all words that may come there. */
     private void passedWordsAreAccepted() {
-        for (int j = 0; j < 20 && x.passed(j) >= 0; j++) {
-            long word = x.passed(j);
-            same("accepts(" + x.place(j) + ", " + word + ")", x.accepts(x.place(j), word), 1);
-            same("attack(" + word + ")", x.attack(word), m.attack(word));
+        for (int j = 0; j < passed.length && passed[j] >= 0; j++) {
+            same("accepts(" + places[j] + ", " + passed[j] + ")", x.accepts(places[j], passed[j]), 1);
+            same("attack(" + passed[j] + ")", x.attack(passed[j]), m.attack(passed[j]));
         }
     }
 
@@ -220,8 +241,8 @@ public final class ModelTest {
         }
     }
 
-    private void callAtRandom(int calls) {
-        for (int i = 0; i < calls && !CHECKS.hasWrong(); i++) {
+    private void callAtRandom() {
+        while (calls + CALLS_OF_RUN <= MOST_CALLS && !CHECKS.hasWrong()) {
             int kind = below(22);
             if (kind < 12) {
                 callForLine(kind);
