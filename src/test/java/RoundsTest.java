@@ -17,6 +17,8 @@ public final class RoundsTest {
         theConditionsVariable();
         contraryGoesOn();
         sinksOfTheLastRound();
+        sinkThatHadMoreBefore();
+        sinkThatIsDeadAtLast();
         innerLoops();
         threeLoops();
         roundsOfTheLatestAnalysis();
@@ -195,6 +197,74 @@ public final class RoundsTest {
         CHECKS.same("14 what the condition keeps", x.accepts(2, 0x42), 1);
         CHECKS.same("14 what it does not keep", x.accepts(2, 0x4), 0);
         CHECKS.same("15 the least of those", x.witness(2, 0), 2);
+    }
+
+    /**
+     * Five b are widened by JOIN, which is not done with one or more b: so the sink has the empty word
+     * behind a in the first round, and not in the last one, which counts.
+     */
+    private static void sinkThatHadMoreBefore() {
+        TaintScanner x = new TaintScanner();
+        x.get(4, 0);
+        x.set(1, 0x2);
+        x.loop(4, HAS, B);
+        x.join(3, 3, 1);
+        x.end();
+        x.join(3, 3, 1);
+        x.set(0, 0x22222);
+        x.set(1, 0x1);
+        x.loop(4, HAS, A);
+        x.join(2, 1, 0);
+        x.sink(2);
+        x.apply(0, 3, STRIP);
+        x.end();
+        x.sink(2);
+        x.sink(0);
+        CHECKS.same("12 more before", x.analyse(), 0);
+        CHECKS.same("16 more before", x.rounds(8), 2);
+        CHECKS.same("13 in the last round", x.size(0), 4);
+        CHECKS.same("14 ab, in the last round", x.accepts(0, 0x13), 1);
+        CHECKS.same("14 a, not in the last round", x.accepts(0, 0x1), 0);
+        CHECKS.same("14 a, of the first round, behind all", x.accepts(1, 0x1), 1);
+        CHECKS.same("13 one or more b", x.size(2), 3);
+    }
+
+    /** "Be it on a dead way": by the same means a way has the word a in the first round, and is dead in the last. */
+    private static void sinkThatIsDeadAtLast() {
+        TaintScanner x = new TaintScanner();
+        x.get(4, 0);
+        x.set(1, 0x2);
+        x.loop(4, HAS, B);
+        x.join(3, 3, 1);
+        x.end();
+        x.join(3, 3, 1);
+        x.set(0, 0x22222);
+        x.set(1, 0x1);
+        x.loop(4, HAS, A);
+        x.join(2, 1, 0);
+        x.apply(0, 3, STRIP);
+        x.when(2, HAS, B);
+        x.other();
+        x.sink(2);
+        x.loop(2, HAS, A);
+        x.set(2, 0x3);
+        x.end();
+        x.sink(2);
+        x.end();
+        x.sink(2);
+        x.end();
+        CHECKS.same("12 dead at last", x.analyse(), 0);
+        CHECKS.same("16 the outer loop", x.rounds(8), 2);
+        CHECKS.same("16 two rounds at first, on a dead way at last", x.rounds(14), 1);
+        for (int k = 0; k < 2; k++) {
+            CHECKS.same("13 dead at last, sink " + k, x.size(k), 1);
+            CHECKS.same("14 dead at last, a, sink " + k, x.accepts(k, 0x1), 0);
+            CHECKS.same("14 dead at last, a quote, sink " + k, x.accepts(k, 0x5), 0);
+            CHECKS.same("15 dead at last, sink " + k, x.witness(k, 0), -1);
+        }
+        CHECKS.same("13 a and one or more b", x.size(2), 4);
+        CHECKS.same("14 a and one or more b", x.accepts(2, 0x133), 1);
+        CHECKS.same("14 no quote of the first round", x.accepts(2, 0x5), 0);
     }
 
     /** "The last time that it came there": the inner loop makes 2 rounds at first, 1 at last; and the other way round. */

@@ -155,15 +155,6 @@ public final class RunBoundsTest {
         needs(x, "SET, LOOP, WHEN, SET, END, END, LOOP", 7);
     }
 
-    /** Adds lines that make variable v some letters a, at most 15, by variable part. */
-    private static void addLetters(TaintScanner x, int v, int part, int letters) {
-        x.set(v, 0);
-        for (int rest = letters; rest > 0; rest -= 6) {
-            x.set(part, 0x111111 >> 4 * Math.max(0, 6 - rest));
-            x.join(v, v, part);
-        }
-    }
-
     private static long letters(int n) {
         return n == 0 ? 0 : 0x111111111111111L >> 4 * (15 - n);
     }
@@ -173,8 +164,8 @@ public final class RunBoundsTest {
         for (int one = 0; one <= 15; one++) {
             for (int another = 0; another <= 15; another++) {
                 TaintScanner x = new TaintScanner();
-                addLetters(x, 0, 2, one);
-                addLetters(x, 1, 2, another);
+                Lines.addLetters(x, 0, 2, A, one);
+                Lines.addLetters(x, 1, 2, A, another);
                 x.join(3, 0, 1);
                 x.sink(3);
                 boolean fits = one + another <= 15;
@@ -188,7 +179,7 @@ public final class RunBoundsTest {
     private static void joinOfOneVariable() {
         for (int n = 6; n <= 9; n++) {
             TaintScanner x = new TaintScanner();
-            addLetters(x, 0, 2, n);
+            Lines.addLetters(x, 0, 2, A, n);
             x.sink(0);
             x.join(0, 0, 0);
             x.sink(0);
@@ -206,7 +197,7 @@ public final class RunBoundsTest {
                 for (int plain = 0; plain + special <= 15; plain++) {
                     TaintScanner x = new TaintScanner();
                     int constant = special == 0 ? 0 : symbol * (0x111111 >> 4 * (6 - special));
-                    addLetters(x, 0, 2, plain);
+                    Lines.addLetters(x, 0, 2, A, plain);
                     x.give(0, constant);
                     x.get(1, 0);
                     x.join(0, 0, 1);

@@ -1,6 +1,6 @@
 /**
- * "Terms", for promises 12 to 14: languages are widened by JOIN above size 6, by STRIP and FOLD above
- * 8, and whatever a line, a condition or a union makes above 24; at those sizes they are not.
+ * "Terms", for promises 12 to 14: a language is widened by JOIN above size 6, when it is the second,
+ * and by STRIP and FOLD above 8, for that line alone; at those sizes it is not.
  */
 public final class SizeBoundsTest {
     private static final Checks CHECKS = new Checks();
@@ -31,62 +31,14 @@ public final class SizeBoundsTest {
             appliesIntoItself(letters);
         }
         appliesTo24();
-        for (int size = 23; size <= 25; size++) {
-            joinMakes(size);
-            guardMakes(size);
-            hasMakes(size);
-            endsMakes(size);
-            contraryMakes(size);
-            conditionInLoopMakes(size);
-            loopGoesOnWith(size);
-            whenUnites(size);
-            loopUnites(size);
-            loopUnitesInItsSecondRound(size);
-        }
-        for (int size = 24; size <= 25; size++) {
-            foldMakes(size);
-            stripMakes(size);
-        }
         CHECKS.close("SizeBoundsTest");
-    }
-
-    /** Adds SETs and JOINs that make variable v, by variable part, some letters of a symbol: of n the size is n + 2. */
-    private static void addLetters(TaintScanner x, int v, int part, int symbol, int letters) {
-        int six = Math.min(letters, 6);
-        x.set(v, symbol * (0x111111 >> 4 * (6 - six)));
-        int rest = letters - six;
-        if (rest >= 4) {
-            x.set(part, symbol * 0x1111);
-        }
-        for (; rest >= 4; rest -= 4) {
-            x.join(v, v, part);
-        }
-        if (rest > 0) {
-            x.set(part, symbol * (0x1111 >> 4 * (4 - rest)));
-            x.join(v, v, part);
-        }
-    }
-
-    /** Adds four lines that make variable v one of two constants; variable 4 must be an input that may have a b or not. */
-    private static void addEither(TaintScanner x, int v, int one, int another) {
-        x.set(v, one);
-        x.when(4, 0, B);
-        x.set(v, another);
-        x.end();
-    }
-
-    /** Adds three lines that make variable v, empty before, all words of the letters of variable part. */
-    private static void addAllWords(TaintScanner x, int v, int part) {
-        x.loop(4, 0, A);
-        x.join(v, v, part);
-        x.end();
     }
 
     private static void sizesOfConstants() {
         TaintScanner x = new TaintScanner();
         for (int letters = 0; letters <= 22; letters++) {
             x.clear();
-            addLetters(x, 0, 1, QUOTE, letters);
+            Lines.addLetters(x, 0, 1, QUOTE, letters);
             x.sink(0);
             x.analyse();
             CHECKS.same("13 " + letters + " quotes", x.size(0), letters + 2);
@@ -123,7 +75,7 @@ public final class SizeBoundsTest {
     private static void joinsSecond(int letters) {
         TaintScanner x = new TaintScanner();
         x.set(0, 0x1);
-        addLetters(x, 1, 3, B, letters);
+        Lines.addLetters(x, 1, 3, B, letters);
         x.join(2, 0, 1);
         x.sink(2);
         x.sink(1);
@@ -145,7 +97,7 @@ public final class SizeBoundsTest {
         TaintScanner x = new TaintScanner();
         x.set(0, 0x1);
         x.get(1, 0);
-        addLetters(x, 2, 3, B, Math.min(letters, 4));
+        Lines.addLetters(x, 2, 3, B, Math.min(letters, 4));
         x.join(1, 1, 2);
         if (letters > 4) {
             x.set(2, letters == 5 ? B : B * 0x11);
@@ -169,7 +121,7 @@ public final class SizeBoundsTest {
     /** "Also when both are one variable's": the second of them alone, and for this line alone. */
     private static void joinsOneVariable(int letters) {
         TaintScanner x = new TaintScanner();
-        addLetters(x, 1, 3, B, letters);
+        Lines.addLetters(x, 1, 3, B, letters);
         x.join(2, 1, 1);
         x.sink(2);
         x.sink(1);
@@ -186,7 +138,7 @@ public final class SizeBoundsTest {
 
     private static void joinsOneVariableIntoItself(int letters) {
         TaintScanner x = new TaintScanner();
-        addLetters(x, 1, 3, B, letters);
+        Lines.addLetters(x, 1, 3, B, letters);
         x.join(1, 1, 1);
         x.sink(1);
         x.analyse();
@@ -200,7 +152,7 @@ public final class SizeBoundsTest {
 
     private static void joinsSecondOf24() {
         TaintScanner x = new TaintScanner();
-        addLetters(x, 1, 3, B, 22);
+        Lines.addLetters(x, 1, 3, B, 22);
         x.set(0, 0x1);
         x.join(2, 0, 1);
         x.sink(2);
@@ -215,7 +167,7 @@ public final class SizeBoundsTest {
     private static void joinsAnyFirst() {
         for (int letters = 3; letters <= 21; letters++) {
             TaintScanner x = new TaintScanner();
-            addLetters(x, 1, 3, B, letters);
+            Lines.addLetters(x, 1, 3, B, letters);
             x.set(0, 0x1);
             x.join(2, 1, 0);
             x.sink(2);
@@ -233,7 +185,7 @@ public final class SizeBoundsTest {
         x.end();
         x.loop(1, 0, ESCAPE);
         x.end();
-        addLetters(x, 2, 3, B, 4);
+        Lines.addLetters(x, 2, 3, B, 4);
         x.join(1, 1, 2);
         x.join(1, 1, 2);
         x.join(0, 0, 1);
@@ -252,7 +204,7 @@ public final class SizeBoundsTest {
     /** "For STRIP and FOLD the language is widened before, if its size is above 8": quotes and one a. */
     private static void strips(int letters) {
         TaintScanner x = new TaintScanner();
-        addLetters(x, 0, 3, QUOTE, letters - 1);
+        Lines.addLetters(x, 0, 3, QUOTE, letters - 1);
         x.set(1, 0x1);
         x.join(0, 0, 1);
         x.apply(1, 0, STRIP);
@@ -272,7 +224,7 @@ public final class SizeBoundsTest {
 
     private static void folds(int letters) {
         TaintScanner x = new TaintScanner();
-        addLetters(x, 0, 3, ESCAPE, letters - 1);
+        Lines.addLetters(x, 0, 3, ESCAPE, letters - 1);
         x.set(1, 0x1);
         x.join(0, 0, 1);
         x.apply(1, 0, FOLD);
@@ -294,7 +246,7 @@ public final class SizeBoundsTest {
     /** GUARD does not widen before, whatever the size. */
     private static void guards(int letters) {
         TaintScanner x = new TaintScanner();
-        addLetters(x, 0, 3, QUOTE, letters - 1);
+        Lines.addLetters(x, 0, 3, QUOTE, letters - 1);
         x.set(1, 0x1);
         x.join(0, 0, 1);
         x.apply(1, 0, GUARD);
@@ -311,7 +263,7 @@ public final class SizeBoundsTest {
     private static void appliesIntoItself(int letters) {
         for (int f = 0; f < 3; f++) {
             TaintScanner x = new TaintScanner();
-            addLetters(x, 2, 3, A, letters);
+            Lines.addLetters(x, 2, 3, A, letters);
             x.apply(2, 2, f);
             x.sink(2);
             x.analyse();
@@ -325,7 +277,7 @@ public final class SizeBoundsTest {
     private static void appliesTo24() {
         for (int f = 0; f < 3; f++) {
             TaintScanner x = new TaintScanner();
-            addLetters(x, 0, 3, A, 22);
+            Lines.addLetters(x, 0, 3, A, 22);
             x.apply(1, 0, f);
             x.sink(1);
             x.sink(0);
@@ -333,274 +285,5 @@ public final class SizeBoundsTest {
             CHECKS.same("13 function " + f + " of size 24", x.size(0), f == GUARD ? 24 : 2);
             CHECKS.same("13 it stays as it was", x.size(1), 24);
         }
-    }
-
-    /** A sink's size when it was made by something of a size: widened above 24. */
-    private static void size(TaintScanner x, String what, int k, int made) {
-        CHECKS.same("13 " + what + " of size " + made, x.size(k), made > 24 ? 2 : made);
-    }
-
-    private static void joinMakes(int size) {
-        TaintScanner x = new TaintScanner();
-        addLetters(x, 0, 3, B, size - 3);
-        x.set(1, 0x1);
-        x.join(2, 0, 1);
-        x.sink(2);
-        CHECKS.same("12 JOIN", x.analyse(), 0);
-        size(x, "JOIN", 0, size);
-        CHECKS.same("14 JOIN, ab, of size " + size, x.accepts(0, 0x13), size > 24 ? 1 : 0);
-        CHECKS.same("14 JOIN, the empty word, of size " + size, x.accepts(0, 0), size > 24 ? 1 : 0);
-        CHECKS.same("14 JOIN, no escape, of size " + size, x.accepts(0, 0x7), 0);
-    }
-
-    /** Some quotes, which count twice, and an a or two. */
-    private static void guardMakes(int size) {
-        TaintScanner x = new TaintScanner();
-        int plain = size % 2 == 0 ? 2 : 1;
-        addLetters(x, 0, 3, QUOTE, (size - 2 - plain) / 2);
-        x.set(1, plain == 1 ? 0x1 : 0x11);
-        x.join(0, 0, 1);
-        x.apply(2, 0, GUARD);
-        x.sink(2);
-        x.analyse();
-        size(x, "GUARD", 0, size);
-        CHECKS.same("14 GUARD, an escape, of size " + size, x.accepts(0, 0x7), size > 24 ? 1 : 0);
-        CHECKS.same("14 GUARD, a quote and a, of size " + size, x.accepts(0, 0x51), size > 24 ? 1 : 0);
-        CHECKS.same("14 GUARD, b, of size " + size, x.accepts(0, 0x3), 0);
-    }
-
-    /** With * for all words and X for one of b and escape: FOLD makes * a X X X a one of 25, * a a X X X a of 24. */
-    private static void foldMakes(int size) {
-        TaintScanner x = new TaintScanner();
-        x.get(4, 0);
-        addEither(x, 1, B, ESCAPE);
-        addAllWords(x, 0, 1);
-        x.set(2, A);
-        x.join(0, 0, 2);
-        if (size == 24) {
-            x.join(0, 0, 2);
-        }
-        for (int i = 0; i < 3; i++) {
-            x.join(0, 0, 1);
-        }
-        x.join(0, 0, 2);
-        x.sink(0);
-        x.apply(3, 0, FOLD);
-        x.sink(3);
-        CHECKS.same("12 FOLD", x.analyse(), 0);
-        CHECKS.same("13 before FOLD", x.size(0), size == 24 ? 8 : 7);
-        size(x, "FOLD", 1, size);
-        CHECKS.same("14 FOLD, seven b", x.accepts(1, 0x3333333), 1);
-        CHECKS.same("14 FOLD, an escape last", x.accepts(1, 0x3333337), size > 24 ? 1 : 0);
-        CHECKS.same("14 FOLD, a", x.accepts(1, 0x1), 0);
-    }
-
-    /** STRIP makes of a* and (b or quote) a X X X a one of 24, of all words and quote a X X X a one of 25, X: a or b. */
-    private static void stripMakes(int size) {
-        TaintScanner x = new TaintScanner();
-        x.get(4, 0);
-        x.set(2, A);
-        addEither(x, 3, A, B);
-        addAllWords(x, 0, size == 24 ? 2 : 3);
-        if (size == 24) {
-            addEither(x, 1, QUOTE, B);
-        } else {
-            x.set(1, QUOTE);
-        }
-        x.join(0, 0, 1);
-        x.join(0, 0, 2);
-        for (int i = 0; i < 3; i++) {
-            x.join(0, 0, 3);
-        }
-        x.join(0, 0, 2);
-        x.sink(0);
-        x.apply(1, 0, STRIP);
-        x.sink(1);
-        CHECKS.same("12 STRIP", x.analyse(), 1);
-        CHECKS.same("13 before STRIP", x.size(0), 8);
-        size(x, "STRIP", 1, size);
-        CHECKS.same("14 STRIP, five a", x.accepts(1, 0x11111), 1);
-        CHECKS.same("14 STRIP, b last", x.accepts(1, 0x11113), size > 24 ? 1 : 0);
-        CHECKS.same("14 STRIP, a quote", x.accepts(1, 0x511111), 0);
-    }
-
-    /** Words of n letters a or b that have an a: 2 n + 1; with an escape behind them: 2 n + 2. */
-    private static void hasMakes(int size) {
-        TaintScanner x = new TaintScanner();
-        x.get(4, 0);
-        addEither(x, 1, A, B);
-        int letters = (size - 1) / 2;
-        for (int i = 0; i < letters; i++) {
-            x.join(0, 0, 1);
-        }
-        if (size % 2 == 0) {
-            x.set(2, ESCAPE);
-            x.join(0, 0, 2);
-        }
-        x.when(0, 0, A);
-        x.sink(0);
-        x.end();
-        x.analyse();
-        size(x, "HAS", 0, size);
-        CHECKS.same("14 HAS, b, of size " + size, x.accepts(0, 0x3), size > 24 ? 1 : 0);
-        CHECKS.same("14 HAS, an escape first, of size " + size, x.accepts(0, 0x71), 0);
-        CHECKS.same("14 HAS, a quote, of size " + size, x.accepts(0, 0x5), 0);
-    }
-
-    /** Words of at most n letters a or b that end with an a: 2 n + 1; with an escape before them: 2 n + 2. */
-    private static void endsMakes(int size) {
-        TaintScanner x = new TaintScanner();
-        x.get(4, 0);
-        addUpTo(x, size, ESCAPE);
-        x.when(0, 2, A);
-        x.sink(0);
-        x.end();
-        x.analyse();
-        size(x, "ENDS", 0, size);
-        CHECKS.same("14 ENDS, b, of size " + size, x.accepts(0, 0x3), size > 24 ? 1 : 0);
-        CHECKS.same("14 ENDS, a, of size " + size, x.accepts(0, 0x1), size % 2);
-    }
-
-    /** Adds lines that make variable 0 all words of up to (size - 1) / 2 letters a or b, behind a symbol if size is even. */
-    private static void addUpTo(TaintScanner x, int size, int symbol) {
-        x.when(4, 0, B);
-        x.set(1, A);
-        x.end();
-        x.when(4, 0, ESCAPE);
-        x.set(1, B);
-        x.end();
-        if (size % 2 == 0) {
-            x.set(0, symbol);
-        }
-        for (int i = 0; i < (size - 1) / 2; i++) {
-            x.join(0, 0, 1);
-        }
-    }
-
-    /** A contrary makes languages, too: those words of at most n letters that do not end with a. */
-    private static void contraryMakes(int size) {
-        TaintScanner x = new TaintScanner();
-        x.get(4, 0);
-        addUpTo(x, size, ESCAPE);
-        x.when(0, 2, A);
-        x.other();
-        x.sink(0);
-        x.end();
-        x.analyse();
-        size(x, "ENDS not", 0, size);
-        CHECKS.same("14 ENDS not, a, of size " + size, x.accepts(0, 0x1), size > 24 ? 1 : 0);
-        CHECKS.same("14 ENDS not, b, of size " + size, x.accepts(0, 0x3), size % 2);
-    }
-
-    /** A LOOP goes through nothing, but what its condition keeps is widened, and so is U by that. */
-    private static void conditionInLoopMakes(int size) {
-        TaintScanner x = new TaintScanner();
-        x.get(4, 0);
-        addUpTo(x, size, ESCAPE);
-        int loop = x.loop(0, 2, A) - 1;
-        x.sink(0);
-        x.end();
-        x.sink(0);
-        x.analyse();
-        boolean wide = size > 24;
-        CHECKS.same("16 LOOP keeps what has size " + size, x.rounds(loop), wide ? 2 : 1);
-        CHECKS.same("13 LOOP keeps what has size " + size, x.size(0), wide ? 3 : size);
-        CHECKS.same("13 behind a LOOP that kept what has size " + size, x.size(1), wide ? 3 : size);
-        CHECKS.same("14 LOOP, a, of size " + size, x.accepts(0, 0x1), size % 2);
-        CHECKS.same("14 LOOP, 14 a, of size " + size, x.accepts(0, 0x11111111111111L), wide ? 1 : 0);
-        CHECKS.same("14 LOOP, b, of size " + size, x.accepts(0, 0x3), 0);
-        CHECKS.same("14 behind LOOP, b, of size " + size, x.accepts(1, 0x3), size % 2);
-        CHECKS.same("14 behind LOOP, 14 b, of size " + size, x.accepts(1, 0x33333333333333L), wide ? 1 : 0);
-        CHECKS.same("14 behind LOOP, a, of size " + size, x.accepts(1, 0x1), 0);
-    }
-
-    /**
-     * What a LOOP's contrary keeps, when its condition keeps less: a quote and up to six letters a or
-     * b, or an escape and n letters b. Those that do not end with an a: n + 13.
-     */
-    private static void loopGoesOnWith(int size) {
-        TaintScanner x = new TaintScanner();
-        x.get(4, 0);
-        addUpTo(x, 14, QUOTE);
-        x.when(4, 0, A);
-        x.set(0, 0x422222);
-        x.set(3, 0x2222);
-        x.join(0, 0, 3);
-        x.set(3, 0x222 >> 4 * (25 - size));
-        x.join(0, 0, 3);
-        x.end();
-        int loop = x.loop(0, 2, A) - 1;
-        x.end();
-        CHECKS.same("6 there is room", x.sink(0), 24);
-        x.analyse();
-        CHECKS.same("16 behind LOOP of size " + size, x.rounds(loop), 1);
-        size(x, "behind LOOP", 0, size);
-        CHECKS.same("14 behind LOOP, a quote, of size " + size, x.accepts(0, 0x5), 1);
-        CHECKS.same("14 behind LOOP, a quote and a, of size " + size, x.accepts(0, 0x51), size > 24 ? 1 : 0);
-        CHECKS.same("14 behind LOOP, b, of size " + size, x.accepts(0, 0x3), size > 24 ? 1 : 0);
-    }
-
-    /** Some b, and a word of two other letters, of which the second brings one state more: n b's, n + 3. */
-    private static void whenUnites(int size) {
-        TaintScanner x = new TaintScanner();
-        x.get(4, 0);
-        addLetters(x, 0, 3, B, size - 3);
-        x.when(4, 0, A);
-        x.set(0, 0x14);
-        x.end();
-        x.sink(0);
-        x.sink(4);
-        CHECKS.same("12 a union", x.analyse(), 1);
-        size(x, "a union", 0, size);
-        CHECKS.same("14 a union, a escape, of size " + size, x.accepts(0, 0x17), 1);
-        CHECKS.same("14 a union, escape b a, of size " + size, x.accepts(0, 0x731), size > 24 ? 1 : 0);
-        CHECKS.same("14 a union, a quote, of size " + size, x.accepts(0, 0x5), 0);
-        CHECKS.same("13 the other variables are not widened", x.size(1), 2);
-    }
-
-    /** "So U below, too": in the first round, ahead of the third. */
-    private static void loopUnites(int size) {
-        TaintScanner x = new TaintScanner();
-        x.get(4, 0);
-        addLetters(x, 0, 3, B, size - 3);
-        x.loop(4, 0, A);
-        x.set(0, 0x14);
-        x.end();
-        x.sink(0);
-        CHECKS.same("12 U", x.analyse(), 0);
-        size(x, "U", 0, size);
-        CHECKS.same("16 U of size " + size, x.rounds(linesOf(size - 3) + 1), 2);
-        CHECKS.same("14 U, a escape, of size " + size, x.accepts(0, 0x17), 1);
-        CHECKS.same("14 U, escape b a, of size " + size, x.accepts(0, 0x731), size > 24 ? 1 : 0);
-        CHECKS.same("14 U, a quote, of size " + size, x.accepts(0, 0x5), 0);
-    }
-
-    /** How many lines addLetters adds for more than ten letters. */
-    private static int linesOf(int letters) {
-        int rest = letters - 6;
-        return 2 + rest / 4 + (rest % 4 == 0 ? 0 : 2);
-    }
-
-    /** Variable 1 gets in the second round what variable 2 got in the first. */
-    private static void loopUnitesInItsSecondRound(int size) {
-        TaintScanner x = new TaintScanner();
-        x.get(4, 0);
-        addLetters(x, 0, 3, B, size - 3);
-        x.join(1, 0, 2);
-        x.set(3, 0);
-        x.loop(4, 0, A);
-        x.when(2, 0, ESCAPE);
-        x.set(0, 0x14);
-        x.end();
-        x.set(2, 0x4);
-        x.end();
-        x.sink(0);
-        x.sink(1);
-        CHECKS.same("12 U of round 2", x.analyse(), 0);
-        size(x, "U of round 2", 0, size);
-        CHECKS.same("16 U of round 2, of size " + size, x.rounds(linesOf(size - 3) + 3), 3);
-        CHECKS.same("14 U of round 2, a escape, of size " + size, x.accepts(0, 0x17), 1);
-        CHECKS.same("14 U of round 2, escape b a, of size " + size, x.accepts(0, 0x731), size > 24 ? 1 : 0);
-        CHECKS.same("13 what does not change", x.size(1), size - 1);
     }
 }

@@ -159,10 +159,14 @@ public final class WitnessTest {
         CHECKS.same("15 far behind a long one", x.witness(0, Integer.MAX_VALUE), 0);
     }
 
-    /** "Letter i (from 0); 0 behind its end; NONE when i is below 0": witnesses of one to six letters. */
+    /**
+     * "Letter i (from 0); 0 behind its end; NONE when i is below 0": witnesses of six letters to one,
+     * told by one object, so that longer ones might have been left.
+     */
     private static void lettersAtTheirBounds() {
-        for (int length = 1; length <= 6; length++) {
-            TaintScanner x = new TaintScanner();
+        TaintScanner x = new TaintScanner();
+        for (int length = 6; length >= 1; length--) {
+            x.clear();
             x.set(0, 0x444443 & (1 << 4 * length) - 1);
             x.sink(0);
             x.analyse();
