@@ -10,6 +10,7 @@ public final class LineBoundsTest {
         fullProgramIsAnalysedAndRun();
         sixSinks();
         sixthSinkOnLine24();
+        variablesAreEmptyAtFirst();
         variablesInEveryRole();
         joinOfAllVariables();
         inputsAreThree();
@@ -133,6 +134,29 @@ public final class LineBoundsTest {
         CHECKS.same("6 neither a line nor a sink is left", x.sink(1), -1);
         CHECKS.same("12 both are full", x.analyse(), 0);
         CHECKS.same("13 the sixth", x.size(5), 3);
+    }
+
+    /** "Whose values are words, empty at first", in a run and in the analysis, and whatever there was before. */
+    private static void variablesAreEmptyAtFirst() {
+        TaintScanner x = new TaintScanner();
+        for (int time = 0; time < 3; time++) {
+            for (int v = 0; v < 5; v++) {
+                x.sink(v);
+            }
+            for (int v = 0; v < 5; v++) {
+                x.get(v, 0);
+            }
+            x.give(0, 0x3);
+            CHECKS.same("12 empty at first", x.analyse(), 0);
+            CHECKS.same("18 empty at first", x.run(10), 5);
+            for (int v = 0; v < 5; v++) {
+                CHECKS.same("13 variable " + v, x.size(v), 2);
+                CHECKS.same("14 variable " + v + " is empty", x.accepts(v, 0), 1);
+                CHECKS.same("14 variable " + v + " is nothing else", x.accepts(v, 0x6), 0);
+                CHECKS.same("20 variable " + v, x.passed(v), 0);
+            }
+            x.clear();
+        }
     }
 
     /** The variables 0 to 4 do, for all that variables are for, and each is its own. */
