@@ -32,6 +32,7 @@ public final class Above24Test {
         widensByLettersOfTheFirstState();
         widensByLettersOfWaysBack(true);
         widensByLettersOfWaysBack(false);
+        widensByLettersOfTheLastState();
         allLettersByALine();
         allLettersByTheThirdRound();
         joinOfManyStates();
@@ -340,6 +341,28 @@ public final class Above24Test {
         CHECKS.same("13 GUARD of quotes and b", x.size(1), 2);
         for (int letter = 1; letter <= 8; letter++) {
             CHECKS.same("14 letter " + letter, x.accepts(1, letter), letter == 3 || letter == 5 || letter == 7 ? 1 : 0);
+        }
+    }
+
+    /** 21 b and any guarded quotes, or aa: its escapes lead to the last state alone, from which quotes lead back. */
+    private static void widensByLettersOfTheLastState() {
+        TaintScanner x = new TaintScanner();
+        x.get(4, 0);
+        x.set(1, QUOTE);
+        Lines.addAllWords(x, 3, 1);
+        x.apply(3, 3, GUARD);
+        Lines.addLetters(x, 0, 1, B, 21);
+        x.join(0, 0, 3);
+        x.sink(0);
+        x.when(4, 0, B);
+        x.set(0, 0x11);
+        x.end();
+        x.sink(0);
+        CHECKS.same("12 b and guarded quotes", x.analyse(), 2);
+        CHECKS.same("13 b and guarded quotes", x.size(0), 24);
+        CHECKS.same("13 those or aa", x.size(1), 2);
+        for (int letter = 1; letter <= 8; letter++) {
+            CHECKS.same("14 those or aa, letter " + letter, x.accepts(1, letter), letter % 2);
         }
     }
 
