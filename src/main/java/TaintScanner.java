@@ -363,7 +363,7 @@ public final class TaintScanner {
         final int[] second = new int[MOST_LINES];
         /** WHEN: its OTHER, or without one its END; OTHER, LOOP: its END; END: its WHEN or LOOP. */
         final int[] mate = new int[MOST_LINES];
-        /** How many blocks lie around the block of a WHEN, OTHER, LOOP or END. */
+        /** How many blocks lie around the block of a WHEN, LOOP or END. */
         final int[] level = new int[MOST_LINES];
         int count;
         int sinks;
@@ -415,7 +415,6 @@ public final class TaintScanner {
         }
 
         private void openOther() {
-            level[count] = open - 1;
             mate[part[open - 1]] = count;
             part[open - 1] = count;
         }

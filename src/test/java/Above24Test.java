@@ -35,6 +35,7 @@ public final class Above24Test {
         widensByLettersOfTheLastState();
         allLettersByALine();
         allLettersByTheThirdRound();
+        widensWithoutADeadState();
         joinOfManyStates();
         CHECKS.close("Above24Test");
     }
@@ -411,6 +412,31 @@ public final class Above24Test {
         x.end();
         allLetters(x, "by the third round");
         CHECKS.same("16 all letters", x.rounds(loop), 4);
+    }
+
+    /** All words of all letters, and some b behind: no state is dead, so that n b have n + 1 states. */
+    private static void widensWithoutADeadState() {
+        for (int size = 23; size <= 25; size++) {
+            TaintScanner x = new TaintScanner();
+            x.get(1, 0);
+            x.set(2, 0x1234);
+            x.join(1, 1, 2);
+            x.join(1, 1, 2);
+            x.join(0, 0, 1);
+            x.set(1, 0x2222);
+            for (int i = 0; i < 5; i++) {
+                x.join(0, 0, 1);
+            }
+            x.set(1, 0x2222 >> 4 * (25 - size));
+            x.join(0, 0, 1);
+            x.sink(0);
+            x.join(3, 3, 0);
+            x.sink(3);
+            CHECKS.same("12 no dead state", x.analyse(), 2);
+            CHECKS.same("13 no dead state, of size " + size, x.size(0), size > 24 ? 1 : size);
+            CHECKS.same("14 no dead state, of size " + size, x.accepts(0, 0x3), size > 24 ? 1 : 0);
+            CHECKS.same("13 widened by JOIN, of size " + size, x.size(1), 1);
+        }
     }
 
     /** Up to 22 letters, and then a and up to three: hundreds of states are told apart before there are fewest. */

@@ -13,6 +13,7 @@ public final class RoundsTest {
         }
         growing();
         widenedInTheFourth();
+        widenedToAllLetters();
         lettersThatComeLate();
         theConditionsVariable();
         contraryGoesOn();
@@ -121,6 +122,34 @@ public final class RoundsTest {
         CHECKS.same("14 no plain quote", x.accepts(0, 0x5), 0);
         CHECKS.same("13 widened in the third", x.size(1), 2);
         CHECKS.same("13 not widened", x.size(2), 4);
+    }
+
+    /** Words of all letters with an a are handed on, so that variable 2 has them in the third round: no state of theirs is dead. */
+    private static void widenedToAllLetters() {
+        TaintScanner x = new TaintScanner();
+        x.get(1, 0);
+        x.set(2, 0x1234);
+        x.join(3, 1, 2);
+        x.join(3, 3, 2);
+        x.join(3, 0, 3);
+        x.set(1, 0);
+        x.set(2, 0);
+        x.loop(3, HAS, A);
+        x.join(2, 1, 4);
+        x.join(1, 0, 4);
+        x.join(0, 3, 4);
+        x.end();
+        x.sink(2);
+        x.sink(1);
+        x.sink(3);
+        CHECKS.same("12 all letters", x.analyse(), 3);
+        CHECKS.same("16 all letters", x.rounds(7), 4);
+        CHECKS.same("13 all words", x.size(0), 1);
+        CHECKS.same("14 all words, aa", x.accepts(0, 0x12), 1);
+        CHECKS.same("13 nothing or one with an a", x.size(1), 3);
+        CHECKS.same("14 nothing or one with an a, b", x.accepts(1, 0x3), 0);
+        CHECKS.same("14 behind the loop, b", x.accepts(2, 0x3), 1);
+        CHECKS.same("14 behind the loop, a", x.accepts(2, 0x1), 0);
     }
 
     /** A variable that was widened gets a new letter later, and is widened with that again. */
