@@ -29,6 +29,8 @@ public final class Above24Test {
             foldMakes(size);
             stripMakes(size);
         }
+        foldMakes23();
+        stripMakes23();
         widensByLettersOfTheFirstState();
         widensByLettersOfWaysBack(true);
         widensByLettersOfWaysBack(false);
@@ -127,6 +129,52 @@ public final class Above24Test {
         CHECKS.same("14 STRIP, five a", x.accepts(1, 0x11111), 1);
         CHECKS.same("14 STRIP, b last", x.accepts(1, 0x11113), size > 24 ? 1 : 0);
         CHECKS.same("14 STRIP, a quote", x.accepts(1, 0x511111), 0);
+    }
+
+    /** One below: * a X X Y X a, with X for b or escape and Y for b or nothing. */
+    private static void foldMakes23() {
+        TaintScanner x = new TaintScanner();
+        x.get(4, 0);
+        Lines.addEither(x, 1, B, ESCAPE);
+        Lines.addAllWords(x, 0, 1);
+        x.set(2, A);
+        Lines.addEither(x, 3, 0, B);
+        for (int part : new int[] {2, 1, 1, 3, 1, 2}) {
+            x.join(0, 0, part);
+        }
+        x.sink(0);
+        x.apply(3, 0, FOLD);
+        x.sink(3);
+        CHECKS.same("12 FOLD", x.analyse(), 0);
+        CHECKS.same("13 before FOLD", x.size(0), 8);
+        size(x, "FOLD", 1, 23);
+        CHECKS.same("14 FOLD, five b", x.accepts(1, 0x33333), 1);
+        CHECKS.same("14 FOLD, an escape last", x.accepts(1, 0x33337), 0);
+    }
+
+    /** One below: any a, b or quote, a, one of a, b and quote, a, a or b, a. */
+    private static void stripMakes23() {
+        TaintScanner x = new TaintScanner();
+        x.get(4, 0);
+        x.set(2, A);
+        Lines.addAllWords(x, 0, 2);
+        Lines.addEither(x, 1, QUOTE, B);
+        x.join(0, 0, 1);
+        x.join(0, 0, 2);
+        x.when(4, 0, ESCAPE);
+        x.set(1, A);
+        x.end();
+        x.join(0, 0, 1);
+        x.join(0, 0, 2);
+        Lines.addEither(x, 1, A, B);
+        x.join(0, 0, 1);
+        x.join(0, 0, 2);
+        x.apply(1, 0, STRIP);
+        CHECKS.same("6 there is room", x.sink(1), 24);
+        CHECKS.same("12 STRIP", x.analyse(), 0);
+        size(x, "STRIP", 0, 23);
+        CHECKS.same("14 STRIP, four a", x.accepts(0, 0x1111), 1);
+        CHECKS.same("14 STRIP, b last", x.accepts(0, 0x1113), 0);
     }
 
     /** Words of n letters a or b that have an a: 2 n + 1; with an escape behind them: 2 n + 2. */
