@@ -655,7 +655,10 @@ public final class TaintScanner {
         }
     }
 
-    /** A deterministic automaton by its rule alone; its states are keys below Automaton.MOST_STATES. */
+    /**
+     * A deterministic automaton by its rule alone; its states are keys below Automaton.MOST_STATES.
+     * Each rule has copies of the languages that it uses, so that there is none that is null.
+     */
     private abstract static class Rule {
         abstract int firstKey();
 
@@ -670,13 +673,13 @@ public final class TaintScanner {
         static final int BOTH = 1;
         static final int FIRST_ALONE = 2;
 
-        private Language a;
-        private Language b;
+        private final Language a = new Language();
+        private final Language b = new Language();
         private int choice;
 
         void use(Language first, Language second, int chosen) {
-            a = first;
-            b = second;
+            a.copy(first);
+            b.copy(second);
             choice = chosen;
         }
 
@@ -709,12 +712,12 @@ public final class TaintScanner {
         static final int MOST_SECOND = 6;
         static final int SETS = 1 << MOST_SECOND;
 
-        private Language a;
-        private Language b;
+        private final Language a = new Language();
+        private final Language b = new Language();
 
         void use(Language first, Language second) {
-            a = first;
-            b = second;
+            a.copy(first);
+            b.copy(second);
         }
 
         int firstKey() {
@@ -746,10 +749,10 @@ public final class TaintScanner {
         private static final int KINDS = 3;
         private static final int NO_KEY = Language.MOST_STATES * KINDS;
 
-        private Language a;
+        private final Language a = new Language();
 
         void use(Language language) {
-            a = language;
+            a.copy(language);
         }
 
         int firstKey() {
@@ -781,14 +784,14 @@ public final class TaintScanner {
     private static final class Image extends Rule {
         static final int MOST_STATES = 8;
 
-        private Language a;
+        private final Language a = new Language();
         /** What the function makes of a letter: one letter, or 0 when that is left out. */
         private final int[] made = new int[LETTERS + 1];
         /** For a state the set of itself and those to which letters lead that are left out. */
         private final int[] silent = new int[MOST_STATES];
 
         void use(Language language, int function) {
-            a = language;
+            a.copy(language);
             for (int letter = 1; letter <= LETTERS; letter++) {
                 made[letter] = Words.image(letter, function);
             }

@@ -125,10 +125,20 @@ final class SourceScan extends TreePathScanner<Void, Void> {
     public Void visitVariable(VariableTree tree, Void none) {
         VariableElement variable = (VariableElement) elementOf(tree);
         holds(3, "the type of " + tree.getName(), tree, isAllowed(variable.asType()));
+        if (variable.getKind() == ElementKind.FIELD) {
+            boolean plain = variable.asType().getKind().isPrimitive();
+            holds(7, tree.getName() + " is never null", tree, plain || variable.getModifiers().contains(Modifier.FINAL));
+        }
         if (variable.getKind() == ElementKind.FIELD && variable.getModifiers().contains(Modifier.STATIC)) {
             holds(5, "a static field is a constant", tree, variable.getConstantValue() != null);
         }
         return super.visitVariable(tree, none);
+    }
+
+    @Override
+    public Void visitLiteral(LiteralTree tree, Void none) {
+        holds(7, "no null", tree, tree.getKind() != Tree.Kind.NULL_LITERAL);
+        return super.visitLiteral(tree, none);
     }
 
     @Override
@@ -245,8 +255,7 @@ final class SourceScan extends TreePathScanner<Void, Void> {
     }
 
     private static boolean isOperand(TypeMirror type, boolean compared) {
-        boolean object = type.getKind() == TypeKind.NULL || isOwn(type.toString());
-        return type.getKind().isPrimitive() || compared && object;
+        return type.getKind().isPrimitive() || compared && isOwn(type.toString());
     }
 
     private boolean isAboveZero(ExpressionTree divisor) {
